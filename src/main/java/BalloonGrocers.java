@@ -530,17 +530,13 @@ public final class BalloonGrocers {
                 }
             } else if (isDigit(text[next])) {
                 kind = NUMBER;
-                takeDigits();
+                value = 0;
+                while (next < length && isDigit(text[next])) {
+                    value = Math.min(HUGE, value * 10 + text[next] - '0');
+                    next++;
+                }
             } else {
                 kind = text[next] == ';' ? SIGN : STRANGE;
-                next++;
-            }
-        }
-
-        private void takeDigits() {
-            value = 0;
-            while (next < length && isDigit(text[next])) {
-                value = Math.min(HUGE, value * 10 + text[next] - '0');
                 next++;
             }
         }
@@ -627,7 +623,7 @@ public final class BalloonGrocers {
             if (reasons[mark] == 0) {
                 doAct(act, at);
             }
-            carries[mark] = isCarried(hour, at);
+            carries[mark] = carry(hour, at);
             if (valley.coolsIn(hour) && log[at + LAYER] > 0) {
                 log[at + LAYER]--;
             }
@@ -660,7 +656,8 @@ public final class BalloonGrocers {
             }
         }
 
-        private boolean isCarried(int hour, int at) {
+        /** Whether the wind carries a shop; it is there then. */
+        private boolean carry(int hour, int at) {
             int layer = log[at + LAYER];
             int wind = valley.windAt(layer, hour);
             int from = columnOf(log[at + X], log[at + Y]);
@@ -750,17 +747,12 @@ public final class BalloonGrocers {
                 edges[wind] = 0L;
             }
             for (int column = 0; column < MOST_SIDE * MOST_SIDE; column++) {
-                if (valley.hasColumn(xOf(column), yOf(column))) {
-                    inside |= bitOf(column);
-                    addEdges(valley, column);
-                }
-            }
-        }
-
-        private void addEdges(Valley valley, int column) {
-            for (int wind = 0; wind < WINDS; wind++) {
-                if (valley.carried(column, wind) == column) {
-                    edges[wind] |= bitOf(column);
+                boolean within = valley.hasColumn(xOf(column), yOf(column));
+                inside |= within ? bitOf(column) : 0L;
+                for (int wind = 0; wind < WINDS && within; wind++) {
+                    if (valley.carried(column, wind) == column) {
+                        edges[wind] |= bitOf(column);
+                    }
                 }
             }
         }
@@ -916,6 +908,7 @@ public final class BalloonGrocers {
         private final Guide guide = new Guide();
         private final Reach[] reaches = new Reach[MOST_SHOPS];
         private Valley valley;
+        private Reach reach;
         private int startLayer;
         private int sand;
         private int gas;
@@ -929,13 +922,12 @@ public final class BalloonGrocers {
         }
 
         Reach cellsOf(Valley over, int shop, int era) {
-            Reach reach = reaches[shop];
+            reach = reaches[shop];
             if (reach.cellsEra != era) {
                 reach.clearCells();
                 prepare(over, shop, PLAIN, 1);
                 for (int hour = 0; hour < over.hours; hour++) {
                     passHour(hour);
-                    gatherCells(reach, hour);
                 }
                 reach.cellsEra = era;
             }
@@ -943,16 +935,13 @@ public final class BalloonGrocers {
         }
 
         Reach toursOf(Valley over, int shop, int era) {
-            Reach reach = reaches[shop];
+            reach = reaches[shop];
             if (reach.toursEra != era) {
                 reach.clearTours();
                 prepare(over, shop, TOURS, 1 << over.doorCount);
-                markDoors();
-                gatherTours(reach, Reach.AT_FIRST);
+                noteTours(0, startLayer, placeOf(0, 0, startLayer), Reach.AT_FIRST);
                 for (int hour = 0; hour < over.hours; hour++) {
                     passHour(hour);
-                    markDoors();
-                    gatherTours(reach, hour);
                 }
                 reach.spreadTours();
                 reach.toursEra = era;
@@ -964,9 +953,6 @@ public final class BalloonGrocers {
             prepare(over, shop, FAIR, over.fairTo - over.fairFrom + 2);
             for (int hour = 0; hour <= over.fairTo; hour++) {
                 passHour(hour);
-                if (hour >= over.fairFrom) {
-                    countHour(bitOf(over.fairColumn), 0);
-                }
             }
             return highestTag();
         }
@@ -975,14 +961,13 @@ public final class BalloonGrocers {
             prepare(over, shop, ALOFT, over.hours + 1);
             for (int hour = 0; hour < over.hours; hour++) {
                 passHour(hour);
-                countHour(-1L, 1);
             }
             return highestTag();
         }
 
-        long rowsOfActs(Valley over, int shop, int last) {
+        long rowsOfActs(Valley over, int shop, int hours) {
             prepare(over, shop, ROWS, 1);
-            for (int hour = 0; hour <= last; hour++) {
+            for (int hour = 0; hour < hours; hour++) {
                 passHour(hour);
             }
             long sum = 0L;
@@ -993,12 +978,12 @@ public final class BalloonGrocers {
         }
 
         int actOnWay(Valley over, int shop, int era, int hour, int column, int layer) {
-            Reach reach = cellsOf(over, shop, era);
+            Reach cells = cellsOf(over, shop, era);
             int target = layer * MOST_SIDE * MOST_SIDE + column;
             if (!guide.knows(era, shop, target)) {
                 board.fit(over);
                 guide.take(states, board);
-                guide.find(over, shop, reach, column, layer);
+                guide.find(over, shop, cells, column, layer);
                 guide.remember(era, shop, target);
             }
             return guide.actIn(hour);
@@ -1026,19 +1011,24 @@ public final class BalloonGrocers {
             return ((sandSpent * (gas + 1) + gasSpent) * valley.layers + layer) * tags;
         }
 
-        /** From the most spent down: a state takes only from states with less spent. */
+        /**
+         * From the most spent down: a state takes only from states with less spent.
+         * What is spent tells the layer, but for the layers lost by cooling.
+         */
         private void passHour(int hour) {
-            boolean cooling = valley.coolsIn(hour);
             for (int spent = sand; spent >= 0; spent--) {
                 for (int used = Math.min(gas, hour + 1 - spent); used >= 0; used--) {
-                    // What is spent tells the layer, but for the layers lost by cooling.
                     int highest = startLayer + spent - used;
                     int lowest = Math.max(0, highest - valley.coolings(hour));
                     for (int layer = lowest; layer <= highest && layer < valley.layers; layer++) {
                         passLayer(spent, used, layer, hour);
                     }
-                    if (cooling) {
+                    if (valley.coolsIn(hour)) {
                         sinkAll(spent, used);
+                        lowest = Math.max(0, lowest - 1);
+                    }
+                    for (int layer = lowest; layer <= highest && layer < valley.layers; layer++) {
+                        note(spent, used, layer, hour);
                     }
                 }
             }
@@ -1080,55 +1070,51 @@ public final class BalloonGrocers {
             return aim == ROWS ? one + two : one | two;
         }
 
-        private void gatherCells(Reach reach, int hour) {
-            for (int spent = 0; spent <= sand; spent++) {
-                for (int used = 0; used <= gas; used++) {
-                    for (int layer = 0; layer < valley.layers; layer++) {
-                        reach.addCells(hour, layer, spent, states[placeOf(spent, used, layer)]);
-                    }
-                }
-            }
-        }
-
-        private void gatherTours(Reach reach, int hour) {
-            int perSand = (gas + 1) * valley.layers;
-            for (int block = 0; block < blockCount(); block++) {
-                for (int tag = 0; tag < tags; tag++) {
-                    if (states[block * tags + tag] != 0L) {
-                        reach.addTour(tag, block / perSand, hour);
-                    }
-                }
+        /** Keeps what the aim asks of a state at the end of an hour. */
+        private void note(int spent, int used, int layer, int hour) {
+            int at = placeOf(spent, used, layer);
+            if (aim == PLAIN) {
+                reach.addCells(hour, layer, spent, states[at]);
+            } else if (aim == TOURS) {
+                noteTours(spent, layer, at, hour);
+            } else if (aim == FAIR && hour >= valley.fairFrom) {
+                countHour(at, bitOf(valley.fairColumn));
+            } else if (aim == ALOFT && layer > 0) {
+                countHour(at, -1L);
             }
         }
 
         /** A tag is here the set of doors that have been visited. */
-        private void markDoors() {
-            for (int block = 0; block < blockCount(); block++) {
-                if (block % valley.layers <= valley.reach) {
-                    for (int door = 0; door < valley.doorCount; door++) {
-                        markDoor(block * tags, door);
-                    }
+        private void noteTours(int spent, int layer, int at, int hour) {
+            if (layer <= valley.reach) {
+                markDoors(at);
+            }
+            for (int tag = 0; tag < tags; tag++) {
+                if (states[at + tag] != 0L) {
+                    reach.addTour(tag, spent, hour);
                 }
             }
         }
 
-        private void markDoor(int at, int door) {
-            long column = bitOf(columnOf(valley.doorFact(door, X), valley.doorFact(door, Y)));
+        private void markDoors(int at) {
+            long all = 0L;
             for (int tag = 0; tag < tags; tag++) {
-                if ((tag >> door & 1) == 0) {
-                    moveTag(at + tag, at + (tag | 1 << door), column);
+                all |= states[at + tag];
+            }
+            for (int door = 0; door < valley.doorCount; door++) {
+                long column = bitOf(columnOf(valley.doorFact(door, X), valley.doorFact(door, Y)));
+                for (int tag = 0; tag < tags && (all & column) != 0L; tag++) {
+                    if ((tag >> door & 1) == 0) {
+                        moveTag(at + tag, at + (tag | 1 << door), column);
+                    }
                 }
             }
         }
 
         /** A tag is here how many hours have counted; from the top, so that none counts twice. */
-        private void countHour(long columns, int lowest) {
-            for (int block = 0; block < blockCount(); block++) {
-                if (block % valley.layers >= lowest) {
-                    for (int tag = tags - 2; tag >= 0; tag--) {
-                        moveTag(block * tags + tag, block * tags + tag + 1, columns);
-                    }
-                }
+        private void countHour(int at, long columns) {
+            for (int tag = tags - 2; tag >= 0; tag--) {
+                moveTag(at + tag, at + tag + 1, columns);
             }
         }
 
@@ -1630,7 +1616,7 @@ public final class BalloonGrocers {
     }
 
     public long ways(int shop, int hour) {
-        return hasShopHour(shop, hour) ? roaming().rowsOfActs(now, shop, hour) : NO_SUCH;
+        return hasShopHour(shop, hour) ? roaming().rowsOfActs(now, shop, hour + 1) : NO_SUCH;
     }
 
     public int tour(int shop, int set) {
@@ -1838,20 +1824,21 @@ public final class BalloonGrocers {
             return NO_WORTH;
         }
         spare.copyFrom(now);
-        return gainBy(shop, hour, act);
+        return gainBy(flown(), shop, hour, act);
     }
 
     public int best() {
         if (!now.stands()) {
             return NO_SUCH;
         }
+        Voyage voyage = flown();
         spare.copyFrom(now);
         int code = NONE;
         int most = 0;
         for (int shop = 0; shop < now.shopCount; shop++) {
             for (int hour = 0; hour < now.hours; hour++) {
                 for (int act = 0; act < ACTS; act++) {
-                    int gain = act == now.actAt(shop, hour) ? 0 : gainBy(shop, hour, act);
+                    int gain = act == now.actAt(shop, hour) ? 0 : gainBy(voyage, shop, hour, act);
                     if (gain > most) {
                         most = gain;
                         code = 1000 * shop + 10 * hour + act;
@@ -2153,8 +2140,7 @@ public final class BalloonGrocers {
     }
 
     /** What another act brings; the spare valley is a copy of this one, and stays so. */
-    private int gainBy(int shop, int hour, int act) {
-        Voyage voyage = flown();
+    private int gainBy(Voyage voyage, int shop, int hour, int act) {
         spare.setAct(shop, hour, act);
         trial.beginBehind(spare, voyage, hour);
         trial.flyFrom(hour);
