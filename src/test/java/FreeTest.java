@@ -16,6 +16,7 @@ public final class FreeTest {
 
     public static void main(String[] args) {
         cells();
+        dearest();
         way();
         sizes();
         tours();
@@ -46,6 +47,22 @@ public final class FreeTest {
         Check.due("soonest 2 1 1", x.soonest(0, 2, 1, 1), 2);
         Check.due("least of shop 1 elsewhere", x.least(1, 3, 0, 1), -1);
         Check.due("least of shop 1", x.least(1, 3, 0, 0), 0);
+    }
+
+    /** On the ground behind each hour, it pays a sand for each cell: seven to the east, two to the south. */
+    private static void dearest() {
+        BalloonGrocers x = Check.told(6, "valley wide 8 deep 8 layers 2 hours 24 cools 1;wind 1 from 0 east;wind 1 from 8 south;"
+            + "shop at 0 0 0 sand 9 gas 0 goods 0;door at 7 2 wants 1;door at 7 3 wants 1;");
+        Check.due("least 7 2 0", x.least(0, 7, 2, 0), 9);
+        Check.due("soonest 7 2 0", x.soonest(0, 7, 2, 0), 9);
+        Check.due("way 7 2 0 in 0", x.way(0, 7, 2, 0, 0), 0);
+        Check.due("way 7 2 0 in 1", x.way(0, 7, 2, 0, 1), 1);
+        Check.due("least 7 3 0", x.least(0, 7, 3, 0), -1);
+        Check.due("tour of the dearest", x.tour(0, 1), 9);
+        Check.due("done of the dearest", x.done(0, 1), 9);
+        Check.due("doors(0, 8, 0)", x.doors(0, 8, 0), 0);
+        Check.due("doors(0, 9, 0)", x.doors(0, 9, 0), 1);
+        Check.due("spots(0, 23)", x.spots(0, 23), x.columns(0, 23));
     }
 
     private static void way() {

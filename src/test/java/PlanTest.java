@@ -146,6 +146,15 @@ public final class PlanTest {
         Check.due("undo()", x.undo(), -5);
         Check.due("changed(0, 0)", x.changed(0, 0), -1);
         Check.due("money() again", x.money(), 8);
+        Check.due("plan(0, 0, 0) again", x.plan(0, 0, 0), 1);
+        Check.due("money() by it", x.money(), 4);
+        Check.due("undo() of it", x.undo(), 0);
+        Check.due("money() without it", x.money(), 8);
+        BalloonGrocers none = new BalloonGrocers();
+        Check.due("undo() without a valley", none.undo(), -2);
+        Check.due("changed(0, 0) without a valley", none.changed(0, 0), -2);
+        Check.due("money() without a valley", none.money(), -2);
+        Check.due("richest() without a valley", none.richest(), -2);
     }
 
     private static void tooManyChanges() {

@@ -10,6 +10,8 @@ public final class ReadingTest {
         faultsOfLines();
         tooMany();
         whatStays();
+        whatWasCutOff();
+        newValley();
         Check.finish("ReadingTest");
     }
 
@@ -123,6 +125,12 @@ public final class ReadingTest {
         faulty(2, SIZES + "sells within |3 price 100;");
         faulty(2, SIZES + "sells within 2 price |100;");
         faulty(1, SIZES + "sells |price 3;");
+        faulty(1, SIZES + "sells |withinz 0 price 3;");
+        faulty(1, SIZES + "sells |awithin 0 price 3;");
+        faulty(1, SIZES + "sells within 0|{price 3;");
+        faulty(1, SIZES + "sells within 0|`price 3;");
+        faulty(1, SIZES + "sells within |/0 price 3;");
+        faulty(1, SIZES + "sells within |:0 price 3;");
         faulty(2, SIZES + "wind |0 from 0 east;");
         faulty(2, SIZES + "wind |3 from 0 east;");
         faulty(2, SIZES + "wind 2 from |6 east;");
@@ -172,6 +180,51 @@ public final class ReadingTest {
         }
         Check.told(6, doors.toString());
         faulty(3, doors + "|door at 0 0 wants 0;");
+    }
+
+    /** Bytes behind the end are none, whatever was fed there. */
+    private static void whatWasCutOff() {
+        String[] texts = {"valley wide 4", "valley wi", "valley wide 4 "};
+        for (String text : texts) {
+            BalloonGrocers x = new BalloonGrocers();
+            Check.tell(x, text + (text.equals("valley wi") ? "de 4" : "5 deep 3"));
+            x.end(text.length());
+            Check.due("valley() of " + text, x.valley(), -4);
+            Check.due("fault(0) of " + text, x.fault(0), 1);
+            Check.due("fault(1) of " + text, x.fault(1), text.equals("valley wi") ? 7 : text.length());
+        }
+        StringBuilder full = new StringBuilder(SIZES);
+        while (full.length() < 1600) {
+            full.append(full.length() < 1560 ? " " : full.length() < 1595 ? "\n" : "5");
+        }
+        BalloonGrocers x = new BalloonGrocers();
+        Check.tell(x, full.toString());
+        Check.due("valley() of 1600 bytes", x.valley(), -4);
+        Check.due("fault(1) of 1600 bytes", x.fault(1), 1595);
+        x.end(1595);
+        Check.due("valley() without the last", x.valley(), 1);
+        Check.due("feed in front of what was there", x.feed(0x20202020, 0x20202020, 0x20202020, 0x20202020, 0x20202020), 20);
+        Check.due("valley() of blanks", x.valley(), 0);
+    }
+
+    /** Nothing of an old valley is told of the new one. */
+    private static void newValley() {
+        String lines = "wind 1 from 0 east;sells within 1 price 5;fair at 0 0 from 0 to 5;";
+        BalloonGrocers x = Check.told(6, SIZES + lines + "shop at 0 0 0 sand 1 gas 1 goods 1;door at 0 0 wants 1;");
+        Check.due("money()", x.money(), 5);
+        Check.due("least(0, 2, 0, 1)", x.least(0, 2, 0, 1), 1);
+        Check.due("tour(0, 1)", x.tour(0, 1), 0);
+        Check.due("way(0, 2, 0, 1, 0)", x.way(0, 2, 0, 1, 0), 1);
+        Check.tell(x, SIZES + "shop at 1 1 1 sand 0 gas 0 goods 1;door at 0 0 wants 1;");
+        Check.due("valley()", x.valley(), 3);
+        Check.due("money() of the new", x.money(), 0);
+        Check.due("least(0, 2, 0, 1) of the new", x.least(0, 2, 0, 1), -1);
+        Check.due("tour(0, 1) of the new", x.tour(0, 1), -1);
+        Check.due("way(0, 2, 0, 1, 0) of the new", x.way(0, 2, 0, 1, 0), -1);
+        Check.due("wind(1, 0) of the new", x.wind(1, 0), 0);
+        Check.due("fair(0) of the new", x.fair(0), -1);
+        Check.due("count(5) of the new", x.count(5), 0);
+        Check.due("count(6) of the new", x.count(6), 9);
     }
 
     private static void whatStays() {
