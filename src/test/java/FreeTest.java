@@ -62,7 +62,8 @@ public final class FreeTest {
         Check.due("done of the dearest", x.done(0, 1), 9);
         Check.due("doors(0, 8, 0)", x.doors(0, 8, 0), 0);
         Check.due("doors(0, 9, 0)", x.doors(0, 9, 0), 1);
-        Check.due("spots(0, 23)", x.spots(0, 23), x.columns(0, 23));
+        Check.due("spots(0, 23)", x.spots(0, 23), 49);
+        Check.due("columns(0, 23)", x.columns(0, 23), 49);
     }
 
     private static void way() {
@@ -76,6 +77,8 @@ public final class FreeTest {
                     x.way(0, row[0], row[1], row[2], h), row[3 + h]);
             }
         }
+        Check.due("way of shop 0", x.way(0, 3, 0, 0, 0), 1);
+        Check.due("way of shop 1 to the same cell", x.way(1, 3, 0, 0, 0), 0);
         // By still layers a row of acts may be put off: hanging comes first.
         x = Check.told(3, "valley wide 2 deep 2 layers 5 hours 6 cools 3;wind 4 from 5 east;shop at 0 0 1 sand 9 gas 9 goods 0;");
         int[] acts = {0, 0, 1, 1, 1, 1};

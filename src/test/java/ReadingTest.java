@@ -184,14 +184,14 @@ public final class ReadingTest {
 
     /** Bytes behind the end are none, whatever was fed there. */
     private static void whatWasCutOff() {
-        String[] texts = {"valley wide 4", "valley wi", "valley wide 4 "};
+        String[] texts = {"valley wide 4", "valley wid", "valley wide 4 "};
         for (String text : texts) {
             BalloonGrocers x = new BalloonGrocers();
-            Check.tell(x, text + (text.equals("valley wi") ? "de 4" : "5 deep 3"));
+            Check.tell(x, text + (text.equals("valley wid") ? "e 4" : "5 deep 3"));
             x.end(text.length());
             Check.due("valley() of " + text, x.valley(), -4);
             Check.due("fault(0) of " + text, x.fault(0), 1);
-            Check.due("fault(1) of " + text, x.fault(1), text.equals("valley wi") ? 7 : text.length());
+            Check.due("fault(1) of " + text, x.fault(1), text.equals("valley wid") ? 7 : text.length());
         }
         StringBuilder full = new StringBuilder(SIZES);
         while (full.length() < 1600) {
