@@ -905,7 +905,7 @@ public final class BalloonGrocers {
 
         private final long[] states = new long[MOST_BLOCKS * MOST_TAGS];
         private final Board board = new Board();
-        private final Guide guide = new Guide();
+        private final Guide guide = new Guide(states, board);
         private final Reach[] reaches = new Reach[MOST_SHOPS];
         private Valley valley;
         private Reach reach;
@@ -982,7 +982,6 @@ public final class BalloonGrocers {
             int target = layer * MOST_SIDE * MOST_SIDE + column;
             if (!guide.knows(era, shop, target)) {
                 board.fit(over);
-                guide.take(states, board);
                 guide.find(over, shop, cells, column, layer);
                 guide.remember(era, shop, target);
             }
@@ -1143,8 +1142,8 @@ public final class BalloonGrocers {
      */
     private static final class Guide {
         private final int[] acts = new int[MOST_HOURS];
-        private long[] marks;
-        private Board board;
+        private final long[] marks;
+        private final Board board;
         private Valley valley;
         private int sand;
         private int gas;
@@ -1154,7 +1153,7 @@ public final class BalloonGrocers {
         private int knownTarget;
 
         /** The scratch has room for 25 hours with all that can be spent, in each layer. */
-        void take(long[] scratch, Board winds) {
+        Guide(long[] scratch, Board winds) {
             marks = scratch;
             board = winds;
         }
@@ -1313,7 +1312,7 @@ public final class BalloonGrocers {
 
         /** Whether every number i of each group is 0 or more and below its bound. */
         boolean keepsWithin(int[] bounds) {
-            if (size % bounds.length != 0) {
+            if (bounds.length == 0 || size % bounds.length != 0) {
                 return false;
             }
             for (int i = 0; i < size; i++) {
@@ -1359,13 +1358,14 @@ public final class BalloonGrocers {
     }
 
     public int valley() {
-        if (!reader.reads(tape, tapeLength, spare)) {
+        boolean good = reader.reads(tape, tapeLength, spare);
+        tapeLength = 0;
+        if (!good) {
             return FAULTY;
         }
         Valley old = now;
         now = spare;
         spare = old;
-        tapeLength = 0;
         forgetAll();
         return now.lines;
     }

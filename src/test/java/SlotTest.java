@@ -65,6 +65,7 @@ public final class SlotTest {
         Check.due("valley()", x.valley(), 7);
         Check.tell(x, "valley wide 9");
         x.valley();
+        Check.tell(x, "valley wide 2");
         Check.due("back(0)", x.back(0), 0);
         Check.due("no valley then", x.money(), -2);
         Check.due("count(6) then", x.count(6), 0);
