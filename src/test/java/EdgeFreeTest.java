@@ -15,6 +15,8 @@ public final class EdgeFreeTest {
         soonest();
         wayOrder();
         wayOfThatHour();
+        wayWithItsGas();
+        wayOfEach();
         wayNone();
         spots();
         columns();
@@ -149,6 +151,44 @@ public final class EdgeFreeTest {
         row("least sand", x, new int[] {1, 0, 2}, 1, 0, 0);
     }
 
+    private static void wayWithItsGas() {
+        Check.of("P27", "The ACT in an HOUR by the first row of ACTS");
+        // With three gas it could hang in hour 1 and sink twice behind it; it has two.
+        BalloonGrocers x = Check.told("valley wide 3 deep 2 layers 4 hours 5 cools 4;wind 1 from 0 south;wind 1 from 3 east;wind 2 from 1 east;wind 2 from 2 west;"
+            + "wind 2 from 3 east;" + shop(0, 0, 3, 1, 2));
+        row("two gas", x, new int[] {1, 1, 0}, 2, 2, 0, 0, -1);
+        // In each wind to the valley's end and to the cell ahead of it.
+        String[] winds = {"north", "east", "south", "west"};
+        int[][] far = {{4, 0}, {7, 4}, {4, 7}, {0, 4}};
+        for (int i = 0; i < 4; i++) {
+            x = Check.told("valley wide 8 deep 8 layers 2 hours 7 cools 0;wind 1 from 0 " + winds[i] + ";" + shop(4, 4, 0, 1, 1));
+            int[] hours = {4, 3, 3, 4};
+            for (int h = 0; h < 7; h++) {
+                Check.due("way " + winds[i] + " to the end in " + h, x.way(0, far[i][0], far[i][1], 0, h), h > hours[i] ? -1 : h == 0 ? 1 : h == hours[i] ? 2 : 0);
+            }
+            Check.due("soonest " + winds[i] + " to the end", x.soonest(0, far[i][0], far[i][1], 1), hours[i] - 1);
+            Check.due("spots of the last hour", x.spots(0, 6), 2 * hours[i] + 1);
+        }
+    }
+
+    /** Asked by turns, of shops and of cells. */
+    private static void wayOfEach() {
+        Check.of("P27", "by which it is in a CELL at the end of the first such HOUR");
+        BalloonGrocers x = Check.told("valley wide 3 deep 2 layers 2 hours 3 cools 0;wind 1 from 0 east;" + shop(0, 0, 1, 1, 1) + shop(0, 0, 0, 1, 1));
+        for (int i = 0; i < 2; i++) {
+            Check.due("way(0, 1, 0, 1, 0)", x.way(0, 1, 0, 1, 0), 0);
+            Check.due("way(1, 1, 0, 1, 0)", x.way(1, 1, 0, 1, 0), 1);
+            Check.due("way(0, 0, 0, 0, 0)", x.way(0, 0, 0, 0, 0), 2);
+            Check.due("way(1, 0, 0, 0, 0)", x.way(1, 0, 0, 0, 0), 0);
+            Check.due("way(1, 0, 0, 1, 0)", x.way(1, 0, 0, 1, 0), -1);
+        }
+        x.turn(1, 0, 0);
+        Check.due("way(1, 0, 0, 1, 0) by another wind", x.way(1, 0, 0, 1, 0), 1);
+        Check.due("soonest(0, 1, 0, 1) by another wind", x.soonest(0, 1, 0, 1), 1);
+        x.load(1, 3, 0);
+        Check.due("way(1, 0, 0, 1, 0) without sand", x.way(1, 0, 0, 1, 0), -1);
+    }
+
     private static void wayNone() {
         BalloonGrocers x = Check.told(EAST);
         Check.of("P27", "NONE: it never can");
@@ -257,6 +297,17 @@ public final class EdgeFreeTest {
         Check.due("tour of doors 0 to 3 above reach", street(0, 1, 0, 0).tour(0, 8), -1);
         Check.due("tour of door 0 from the top", street(1, 2, 0, 9).tour(0, 1), -1);
         Check.due("tour of door 0 from the top in reach", street(2, 2, 0, 0).tour(0, 1), 0);
+        // Over all five in one go, from the west and from the east: each set lies on the way.
+        String[] ends = {"wind 1 from 0 east;" + shop(0, 0, 1, 0, 0), "wind 1 from 0 west;" + shop(4, 0, 1, 0, 0)};
+        for (String end : ends) {
+            BalloonGrocers all = Check.told("valley wide 5 deep 2 layers 2 hours 4 cools 0;sells within 1 price 1;" + end
+                + "door at 0 0 wants 0;door at 1 0 wants 0;door at 2 0 wants 0;door at 3 0 wants 0;door at 4 0 wants 0;");
+            for (int set = 0; set < 32; set++) {
+                Check.due("tour(0, " + set + ") over all five", all.tour(0, set), 0);
+                int far = end.contains("east") ? 31 - Integer.numberOfLeadingZeros(set) : 4 - Integer.numberOfTrailingZeros(set);
+                Check.due("done(0, " + set + ") over all five", all.done(0, set), set == 0 || far == 0 ? -1 : far - 1);
+            }
+        }
         Check.of("P31", "NONE: it can't");
         Check.due("tour(0, 16)", x.tour(0, 16), -1);
         Check.due("tour(0, 31)", x.tour(0, 31), -1);
@@ -381,6 +432,7 @@ public final class EdgeFreeTest {
         String wide = "valley wide 8 deep 2 layers 2 hours 7 cools 0;wind 1 from 0 east;";
         Check.due("meet in the last hour", Check.told(wide + shop(0, 0, 1, 0, 0) + shop(7, 0, 1, 0, 0)).meet(0, 1), 6);
         Check.due("meet of two that are in one cell at first", Check.told(wide + shop(0, 0, 1, 0, 0) + shop(0, 0, 1, 0, 0)).meet(0, 1), 0);
+        Check.due("meet of two that stand in one cell", Check.told(wide + shop(3, 1, 0, 0, 0) + shop(3, 1, 0, 0, 0)).meet(0, 1), 0);
         Check.due("meet of two that part at once", Check.told(wide + shop(0, 0, 1, 0, 0) + shop(0, 0, 0, 0, 0)).meet(0, 1), -1);
         Check.of("P37", "NONE: they never can");
         Check.due("meet one hour too late", Check.told(wide.replace("hours 7", "hours 6") + shop(0, 0, 1, 0, 0) + shop(7, 0, 1, 0, 0)).meet(0, 1), -1);

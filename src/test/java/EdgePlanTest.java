@@ -338,8 +338,13 @@ public final class EdgePlanTest {
         x.plan(1, 2, 2);
         x.load(0, 3, 9);
         x.turn(1, 3, 4);
+        int money = x.money();
         Check.due("undo()", x.undo(), 2);
         Check.due("act(1, 2)", x.act(1, 2), 0);
+        x.plan(0, 0, 2);
+        Check.due("money() by another plan", x.money() != money ? 1 : 0, 1);
+        Check.due("undo()", x.undo(), 2);
+        Check.due("money() as it was", x.money(), money);
         Check.due("undo()", x.undo(), 1);
         Check.due("act(0, 1)", x.act(0, 1), 1);
         Check.due("undo()", x.undo(), 0);

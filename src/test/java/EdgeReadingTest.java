@@ -16,6 +16,7 @@ public final class EdgeReadingTest {
         numbered();
         blanks();
         longest();
+        words();
         firstFault();
         places();
         leastFault();
@@ -285,6 +286,24 @@ public final class EdgeReadingTest {
         good("valley wide 4 deep 3 layers 3 hours 10 cools 19;wind 1 from 9 east;");
     }
 
+    /** Every word of every line, spoilt at its first letter, at its last, made longer, made shorter. */
+    private static void words() {
+        Check.of("T1", "1 a TOKEN that is none, or can't stand there");
+        String text = SIZES + "sells within 2 price 9;wind 1 from 0 still;wind 1 from 0 north;wind 1 from 0 east;wind 1 from 0 south;"
+            + "wind 1 from 0 west;" + SHOP + "door at 0 0 wants 1;fair at 0 0 from 0 to 0;plan 0 0 rises;plan 0 0 sinks;";
+        good(text);
+        java.util.regex.Matcher m = java.util.regex.Pattern.compile("[a-z]+").matcher(text);
+        while (m.find()) {
+            String word = m.group();
+            int last = word.length() - 1;
+            String[] spoilt = {"q" + word.substring(1), word.substring(0, last) + "q", word + "a", word + "z", "a" + word, "z" + word,
+                word.substring(1), word.substring(0, last), word.toUpperCase().charAt(0) + word.substring(1)};
+            for (String other : spoilt) {
+                faulty(1, text.substring(0, m.start()) + "|" + other + text.substring(m.end()));
+            }
+        }
+    }
+
     private static void firstFault() {
         Check.of("T1", "FAULTS, the first by its place");
         faulty(2, "valley wide |9 deep 9 tall ; !");
@@ -456,6 +475,17 @@ public final class EdgeReadingTest {
         Check.tell(x, SIZES + "!");
         Check.due("end(0)", x.end(0), 0);
         Check.due("count(10)", x.count(10), 0);
+        // A number, a word and a blank that were cut: what stood behind is no part of them.
+        String[] whole = {"valley wide 44", "valley wide", "valley wide 4 deep", "valley;"};
+        int[] cut = {13, 10, 14, 6};
+        int[] place = {13, 7, 14, 6};
+        for (int i = 0; i < whole.length; i++) {
+            Check.tell(x, whole[i]);
+            Check.due("end", x.end(cut[i]), cut[i]);
+            Check.due("valley() of " + whole[i] + " to " + cut[i], x.valley(), -4);
+            Check.due("fault(0)", x.fault(0), 1);
+            Check.due("fault(1)", x.fault(1), place[i]);
+        }
         Check.tell(x, SIZES);
         Check.due("valley() of what came behind", x.valley(), 1);
     }
@@ -486,6 +516,40 @@ public final class EdgeReadingTest {
         Check.same("all of it", Check.allOf(x), Check.allOf(Check.told(SIZES + SHOP)));
         Check.due("count(10)", x.count(10), 0);
         Check.due("count(11)", x.count(11), 0);
+        manyValleys();
+    }
+
+    /** One valley behind the other on one object, as each is on a new one. */
+    private static void manyValleys() {
+        String full = "valley wide 8 deep 8 layers 5 hours 9 cools 3;sells within 2 price 9;" + "wind 1 from 0 east;".repeat(17)
+            + "wind 4 from 8 west;wind 2 from 1 south;wind 3 from 0 north;shop at 1 1 1 sand 9 gas 9 goods 9;shop at 2 2 2 sand 1 gas 1 goods 1;"
+            + "shop at 3 3 3 sand 1 gas 1 goods 1;shop at 4 4 4 sand 1 gas 1 goods 1;door at 0 0 wants 1;door at 1 0 wants 1;"
+            + "door at 2 1 wants 1;door at 3 0 wants 1;door at 4 0 wants 1;fair at 2 1 from 1 to 8;plan 0 0 rises;plan 3 8 sinks;";
+        String small = "valley wide 2 deep 2 layers 2 hours 3 cools 0;";
+        String[] texts = {full, full, small, "", full, small + "shop at 1 1 1 sand 1 gas 1 goods 1;", "", small, full, full, "", "",
+            small + "wind 1 from 2 east;shop at 0 0 0 sand 2 gas 2 goods 0;fair at 0 0 from 0 to 2;", SIZES + SHOP, full};
+        BalloonGrocers x = new BalloonGrocers();
+        for (int i = 0; i < texts.length; i++) {
+            BalloonGrocers due = new BalloonGrocers();
+            Check.tell(x, texts[i]);
+            Check.tell(due, texts[i]);
+            Check.due("valley() of text " + i, x.valley(), due.valley());
+            Check.same("all of text " + i, Check.allOf(x) + freeOf(x), Check.allOf(due) + freeOf(due));
+            x.plan(0, 0, 1);
+            x.load(0, 3, 5);
+            x.turn(1, 2, 4);
+            freeOf(x);
+        }
+    }
+
+    private static String freeOf(BalloonGrocers x) {
+        StringBuilder all = new StringBuilder();
+        for (int cell = 0; cell < x.count(0) * x.count(1); cell++) {
+            int column = cell % x.count(0);
+            int row = cell / x.count(0);
+            all.append(' ').append(x.soonest(0, column, row, 1)).append(x.least(0, column, row, 0)).append(x.way(0, column, row, 1, 1));
+        }
+        return all.append(x.ways(0, 2)).append(x.tour(0, 0)).append(x.doors(0, 9, 1)).append(x.aloft(0)).append(x.meet(0, 1)).toString();
     }
 
     private static void valleyOfNothing() {

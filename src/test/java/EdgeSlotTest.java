@@ -110,6 +110,13 @@ public final class EdgeSlotTest {
         none.valley();
         Check.due("back(2)", none.back(2), 0);
         Check.same("no valley", Check.stateOf(none), Check.stateOf(new BalloonGrocers()));
+        BalloonGrocers fair = Check.told("valley wide 2 deep 2 layers 2 hours 9 cools 0;shop at 1 1 0 sand 0 gas 0 goods 0;fair at 1 1 from 5 to 7;");
+        fair.keep(0);
+        Check.tell(fair, "valley wide 2 deep 2 layers 2 hours 9 cools 0;shop at 1 1 0 sand 0 gas 0 goods 0;fair at 1 1 from 1 to 8;");
+        fair.valley();
+        Check.due("fair(0)", fair.fair(0), 8);
+        fair.back(0);
+        Check.due("fair(0) of the image", fair.fair(0), 3);
         Check.of("P58", "-2: no such k");
         refusedBeyond("keep(k)", x::keep, 0, 2);
         Check.refused("keep(3)", x, () -> x.keep(3), -2);

@@ -100,6 +100,8 @@ public final class EdgeWorthTest {
                 Check.due("gust of draw " + draw + " at odds " + (draw + 1), x.gust(seed, draw + 1, 0, 0), 201);
             }
         }
+        Check.due("gust of draw 38 at odds 1", x.gust(1, 1, 0, 0), 101);
+        Check.due("gust of draw 0 at odds 1", x.gust(0, 1, 0, 0), 201);
         BalloonGrocers still = Check.told("valley wide 8 deep 2 layers 2 hours 1 cools 0;shop at 3 0 1 sand 0 gas 0 goods 0;shop at 3 1 0 sand 0 gas 0 goods 0;");
         Check.due("gust of a still wind", still.gust(0, 100, 0, 0), 301);
         Check.due("gust on the ground", still.gust(0, 100, 1, 0), 310);
@@ -135,6 +137,11 @@ public final class EdgeWorthTest {
         Check.due("worth(0, 0, 0): less", x.worth(0, 0, 0), -4);
         Check.due("worth(0, 3, 1) in the last hour", x.worth(0, 3, 1), 0);
         Check.refused("worth(0, 0, 0) changes nothing", x, () -> x.worth(0, 0, 0), -4);
+        x.gust(0, 100, 0, 3);
+        Check.due("worth(0, 0, 0) is without gusts", x.worth(0, 0, 0), -4);
+        x.plan(0, 0, 0);
+        x.takings(0, 100);
+        Check.due("worth(0, 0, 1) is without gusts", x.worth(0, 0, 1), 4);
         Check.of("P49", "-1,000,000: there are none such");
         Check.bounds("worth(shop, 0, 0)", n -> x.worth(n, 0, 0), 0, 1, -1000000);
         Check.bounds("worth(0, hour, 0)", n -> x.worth(0, n, 0), 0, 3, -1000000);
@@ -155,6 +162,11 @@ public final class EdgeWorthTest {
             + "shop at 0 0 0 sand 0 gas 0 goods 0;".repeat(3) + "shop at 0 1 1 sand 0 gas 1 goods 1;door at 1 1 wants 1;");
         Check.due("best() of the last", last.best(), 3232);
         Check.refused("best() changes nothing", last, last::best, 3232);
+        // The least that there can be: shop 0, hour 0, hangs, and brings 1 more.
+        BalloonGrocers least = Check.told(STILL + "sells within 0 price 1;shop at 0 0 0 sand 1 gas 0 goods 1;door at 0 0 wants 1;plan 0 0 rises;");
+        Check.due("best() of the first", least.best(), 0);
+        least.plan(0, 0, 0);
+        Check.due("best() when it hangs", least.best(), -1);
         Check.of("P50", "NONE: none brings more");
         x.plan(1, 1, 2);
         Check.due("best() when all is best", x.best(), -1);
@@ -178,7 +190,7 @@ public final class EdgeWorthTest {
         Check.due("wind(1, 0) stays", x.wind(1, 0), 2);
         Check.of("P51", "all had one sand more (3)");
         String two = "sells within 1 price 7;shop at 0 0 0 sand 0 gas 0 goods 1;shop at 0 0 0 sand 9 gas 9 goods 0;door at 1 0 wants 9;plan 0 0 rises;";
-        x = Check.told(STILL + "wind 1 from 0 east;" + two);
+        x = Check.told("valley wide 4 deep 2 layers 3 hours 3 cools 0;wind 1 from 0 east;" + two);
         Check.due("other(3)", x.other(3), 6);
         Check.due("other(4)", x.other(4), 0);
         Check.due("shop(0, 3) stays", x.shop(0, 3), 0);
@@ -242,6 +254,13 @@ public final class EdgeWorthTest {
             Check.due("wind(2, " + hour + ")", x.wind(2, hour), 0);
         }
         Check.due("turn(1, 1, 0)", x.turn(1, 1, 0), 4);
+        // Shop 0 is blown to its door and sells for 4; shop 1 sells for 5, stays in hour 1 and sells for 4.
+        x.plan(0, 0, 1);
+        Check.due("money()", x.money(), 13);
+        Check.due("turn(1, 0, 3)", x.turn(1, 0, 3), 2);
+        Check.due("money() by another wind", x.money(), 9);
+        Check.due("turn(1, 0, 2)", x.turn(1, 0, 2), 3);
+        Check.due("money() by the wind that was", x.money(), 13);
         Check.due("turn(2, 3, 1)", x.turn(2, 3, 1), 0);
         Check.due("wind(2, 3)", x.wind(2, 3), 1);
         Check.due("wind(2, 2)", x.wind(2, 2), 0);
