@@ -905,7 +905,7 @@ public final class BalloonGrocers {
 
         private final long[] states = new long[MOST_BLOCKS * MOST_TAGS];
         private final Board board = new Board();
-        private final Guide guide = new Guide(states, board);
+        private final Guide guide = new Guide();
         private final Reach[] reaches = new Reach[MOST_SHOPS];
         private Valley valley;
         private Reach reach;
@@ -981,7 +981,7 @@ public final class BalloonGrocers {
             Reach cells = cellsOf(over, shop, era);
             int target = layer * MOST_SIDE * MOST_SIDE + column;
             if (!guide.knows(era, shop, target)) {
-                board.fit(over);
+                guide.take(states, board);
                 guide.find(over, shop, cells, column, layer);
                 guide.remember(era, shop, target);
             }
@@ -1142,8 +1142,8 @@ public final class BalloonGrocers {
      */
     private static final class Guide {
         private final int[] acts = new int[MOST_HOURS];
-        private final long[] marks;
-        private final Board board;
+        private long[] marks;
+        private Board board;
         private Valley valley;
         private int sand;
         private int gas;
@@ -1153,7 +1153,7 @@ public final class BalloonGrocers {
         private int knownTarget;
 
         /** The scratch has room for 25 hours with all that can be spent, in each layer. */
-        Guide(long[] scratch, Board winds) {
+        void take(long[] scratch, Board winds) {
             marks = scratch;
             board = winds;
         }

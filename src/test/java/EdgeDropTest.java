@@ -160,6 +160,9 @@ public final class EdgeDropTest {
         Check.of("P44", "NONE: from none");
         Check.due("whence(0, 0) where all is blown off", x.whence(0, 0, 1, 0, 1), -1);
         Check.due("whence(2, 2): three hours", x.whence(2, 2, 1, 0, 3), -1);
+        // Nothing comes from beyond the valley's end.
+        Check.due("whence(3, 1) where the wind is west", x.whence(3, 1, 2, 1, 1), -1);
+        Check.due("whence(1, 2) where the wind is north", x.whence(1, 2, 2, 0, 1), -1);
         Check.of("P44", "-2 likewise");
         refusedBeyond("whence(x, 0, 0, 0, 0)", n -> x.whence(n, 0, 0, 0, 0), 0, 3);
         refusedBeyond("whence(0, y, 0, 0, 0)", n -> x.whence(0, n, 0, 0, 0), 0, 2);

@@ -435,6 +435,9 @@ public final class EdgePlanTest {
         BalloonGrocers x = Check.told(t.toString());
         Check.due("vain(0) of sinking always", x.vain(0), 24);
         Check.due("vain(1) of hanging always", x.vain(1), 0);
+        x.plan(1, 0, 2);
+        Check.due("vain(0) whatever shop 1 does", x.vain(0), 24);
+        x.undo();
         x.plan(0, 0, 1);
         Check.due("vain(0) of one that is not", x.vain(0), 23);
         x.plan(0, 23, 0);
