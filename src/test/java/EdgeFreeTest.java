@@ -157,7 +157,11 @@ public final class EdgeFreeTest {
         BalloonGrocers x = Check.told("valley wide 3 deep 2 layers 4 hours 5 cools 4;wind 1 from 0 south;wind 1 from 3 east;wind 2 from 1 east;wind 2 from 2 west;"
             + "wind 2 from 3 east;" + shop(0, 0, 3, 1, 2));
         row("two gas", x, new int[] {1, 1, 0}, 2, 2, 0, 0, -1);
-        // In each wind to the valley's end and to the cell ahead of it.
+        // It rises into the south wind, sinks, and has no gas then: it rides to the end and back, and cools to the ground.
+        x = Check.told("valley wide 3 deep 2 layers 2 hours 6 cools 3;wind 1 from 0 south;wind 1 from 1 north;wind 1 from 3 east;wind 1 from 5 west;"
+            + shop(0, 0, 0, 4, 1));
+        row("one gas", x, new int[] {1, 1, 0}, 1, 2, 0, 1, 0, 0);
+        // In each wind to the valley's end, and down there.
         String[] winds = {"north", "east", "south", "west"};
         int[][] far = {{4, 0}, {7, 4}, {4, 7}, {0, 4}};
         for (int i = 0; i < 4; i++) {
@@ -178,6 +182,7 @@ public final class EdgeFreeTest {
         for (int i = 0; i < 2; i++) {
             Check.due("way(0, 1, 0, 1, 0)", x.way(0, 1, 0, 1, 0), 0);
             Check.due("way(1, 1, 0, 1, 0)", x.way(1, 1, 0, 1, 0), 1);
+            Check.due("way(0, 1, 0, 1, 0)", x.way(0, 1, 0, 1, 0), 0);
             Check.due("way(0, 0, 0, 0, 0)", x.way(0, 0, 0, 0, 0), 2);
             Check.due("way(1, 0, 0, 0, 0)", x.way(1, 0, 0, 0, 0), 0);
             Check.due("way(1, 0, 0, 1, 0)", x.way(1, 0, 0, 1, 0), -1);
